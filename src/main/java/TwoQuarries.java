@@ -515,8 +515,7 @@ public final class TwoQuarries {
     }
 
     private static long nextTo(long cells) {
-        long aside = ((cells >>> 1) & ~RIGHTMOST) | ((cells << 1) & ~LEFTMOST);
-        return aside | (cells << STRIDE) | (cells >>> STRIDE);
+        return leftOf(cells) | rightOf(cells) | (cells << STRIDE) | (cells >>> STRIDE);
     }
 
     private static long flood(long from, long open) {
@@ -841,7 +840,7 @@ public final class TwoQuarries {
         }
 
         private long bridged(long solid) {
-            return solid & leftOf(solid) & rightOf(solid);
+            return solid & (solid >>> 1) & ~RIGHTMOST & (solid << 1) & ~LEFTMOST;
         }
 
         long standing(long solid) {
@@ -1520,12 +1519,20 @@ public final class TwoQuarries {
             open(hill);
             seed = x;
             for (int i = 0; i < n; i++) {
-                int deed = below(8);
-                if (deed == 7) {
-                    heard += ground.isHeardThrough(below(10)) ? 1 : 0;
-                } else {
-                    work(deed / 3, ground.bitOf(below(ground.cellCount())));
-                }
+                actByLot(below(8));
+            }
+        }
+
+        private void actByLot(int lot) {
+            if (lot == 7) {
+                heard += ground.isHeardThrough(below(10)) ? 1 : 0;
+                return;
+            }
+            long bit = ground.bitOf(below(ground.cellCount()));
+            if (lot == 6) {
+                shoreUp(bit);
+            } else {
+                strike(lot < 3 ? NORTH : SOUTH, bit);
             }
         }
 
@@ -1540,10 +1547,7 @@ public final class TwoQuarries {
                 heard += ground.isHeardThrough(year.firstAt(k)) ? 1 : 0;
                 return true;
             }
-            return work(kind, ground.bitAt(year.firstAt(k), year.secondAt(k)));
-        }
-
-        private boolean work(int kind, long bit) {
+            long bit = ground.bitAt(year.firstAt(k), year.secondAt(k));
             return kind == SHORE ? shoreUp(bit) : strike(kind, bit);
         }
 
