@@ -40,6 +40,7 @@ public final class TwoQuarries {
     private static final int PLACES = 48;
     private static final long LEFTMOST = 0x010101010101L;
     private static final long RIGHTMOST = 0x808080808080L;
+    private static final long WIDEST = 0xFFFFFFFFFFFFL;
 
     private static final int MOST_WIDE = 8;
     private static final int MOST_HIGH = 6;
@@ -277,7 +278,7 @@ public final class TwoQuarries {
         ear.gather(told);
         switch (what) {
             case 0:
-                return ear.many;
+                return ear.fitCount();
             case 1:
                 return ear.sureCell();
             case 2:
@@ -496,10 +497,6 @@ public final class TwoQuarries {
 
     private static boolean isSide(int side) {
         return side == NORTH || side == SOUTH;
-    }
-
-    private static int steps(int cell, int other) {
-        return Math.abs(cell % STRIDE - other % STRIDE) + Math.abs(cell / STRIDE - other / STRIDE);
     }
 
     private static long lowest(long cells) {
@@ -894,10 +891,14 @@ public final class TwoQuarries {
             return side == NORTH ? west : east;
         }
 
-        long cuttable(int side, long solid) {
+        /** The cells of air to which a side comes without a cut. */
+        private long reached(int side, long solid) {
             long open = area & ~solid;
-            long reached = flood(edge(side) & open, open);
-            return stones() & solid & (edge(side) | nextTo(reached));
+            return flood(edge(side) & open, open);
+        }
+
+        long cuttable(int side, long solid) {
+            return stones() & solid & (edge(side) | nextTo(reached(side, solid)));
         }
 
         /** Only where all that is solid stands: then a cut is safe if the cells above, left and right stand without it. */
@@ -908,19 +909,14 @@ public final class TwoQuarries {
             return cuttable(side, solid) & ~needed;
         }
 
-        /** The cells to which a side comes by one stone more than to those of the layer before. */
+        /** The cells to which a side comes by one stone more, at most, than to those of the layer before. */
         private long nextLayer(int side, long layer, long solid) {
             long stones = stones() & solid;
             return flood(layer | (stones & (edge(side) | nextTo(layer))), area & ~solid);
         }
 
-        private long firstLayer(int side, long solid) {
-            long open = area & ~solid;
-            return flood(edge(side) & open, open);
-        }
-
         int fewestStones(int side, long goal, long solid) {
-            long layer = firstLayer(side, solid);
+            long layer = reached(side, solid);
             for (int stones = 0; stones <= PLACES; stones++) {
                 if ((layer & goal) != 0L) {
                     return stones;
@@ -944,7 +940,7 @@ public final class TwoQuarries {
         }
 
         boolean isThrough() {
-            return (firstLayer(NORTH, solid()) & east) != 0L;
+            return (reached(NORTH, solid()) & east) != 0L;
         }
 
         /** The fewest cells of a way with so many stones; row s of ways has the ends of all ways with s stones. */
@@ -974,8 +970,8 @@ public final class TwoQuarries {
         /** The stones to which a side comes by fewer stones than the other side. */
         long sooner(int side) {
             int other = side == NORTH ? SOUTH : NORTH;
-            long mine = firstLayer(side, solid());
-            long theirs = firstLayer(other, solid());
+            long mine = reached(side, solid());
+            long theirs = reached(other, solid());
             long found = 0L;
             for (int stones = 0; stones <= PLACES; stones++) {
                 found |= mine & ~theirs & stones();
@@ -1803,66 +1799,92 @@ public final class TwoQuarries {
         }
     }
 
-    /** Finds who may be heard by a log: all cells and strengths that fit its facts. */
+    /** Finds who may be heard by a log: for each strength the set of all cells that fit its facts. */
     private static final class Ear {
-        private final int[] fitting = new int[PLACES * LOUDEST];
+        private final long[] fitting = new long[LOUDEST + 1];
         private final int[] times = new int[LOUDEST + 1];
-        private int many = 0;
 
         void gather(Log log) {
-            many = 0;
-            for (int striker = 0; striker < fitting.length; striker++) {
-                if (agrees(log, striker) && many < fitting.length) {
-                    fitting[many] = striker;
-                    many++;
+            for (int strength = 1; strength < fitting.length; strength++) {
+                long cells = WIDEST;
+                for (int k = 0; k < log.many; k++) {
+                    cells &= heardFrom(log.cellAt(k), log.heardAt(k), strength);
                 }
+                fitting[strength] = cells;
             }
         }
 
-        private static boolean agrees(Log log, int striker) {
-            for (int k = 0; k < log.many; k++) {
-                if (loudness(striker, log.cellAt(k)) != log.heardAt(k)) {
-                    return false;
-                }
+        /** The cells from which a strength is heard at a cell as told. */
+        private static long heardFrom(int cell, int heard, int strength) {
+            if (heard == 0) {
+                return WIDEST & ~near(cell, strength - 1);
             }
-            return true;
+            return near(cell, strength - heard) & ~near(cell, strength - heard - 1);
         }
 
-        private static int loudness(int striker, int cell) {
-            return Math.max(0, striker % LOUDEST + 1 - steps(striker / LOUDEST, cell));
+        private static long near(int cell, int steps) {
+            long cells = cell < 0 || cell >= PLACES || steps < 0 ? 0L : 1L << cell;
+            for (int i = 0; i < steps && i < FARTHEST; i++) {
+                cells |= nextTo(cells) & WIDEST;
+            }
+            return cells;
+        }
+
+        int fitCount() {
+            return countIn(WIDEST);
+        }
+
+        int countNear(int cell, int steps) {
+            return countIn(near(cell, steps));
+        }
+
+        private int countIn(long cells) {
+            int many = 0;
+            for (int strength = 1; strength < fitting.length; strength++) {
+                many += Long.bitCount(fitting[strength] & cells);
+            }
+            return many;
         }
 
         int fitAt(int k) {
-            return k < 0 || k >= many || k >= fitting.length ? UNKNOWN : fitting[k];
+            int before = 0;
+            for (int fit = 0; fit < PLACES * LOUDEST && k >= 0; fit++) {
+                int strength = fit % LOUDEST + 1;
+                if (strength < fitting.length && (fitting[strength] & (1L << (fit / LOUDEST))) != 0L) {
+                    if (before == k) {
+                        return fit;
+                    }
+                    before++;
+                }
+            }
+            return UNKNOWN;
         }
 
         int sureCell() {
-            int sure = many == 0 ? NONE : fitAt(0) / LOUDEST;
-            for (int k = 1; k < many; k++) {
-                if (fitAt(k) / LOUDEST != sure) {
-                    return NONE;
-                }
+            long cells = 0L;
+            for (int strength = 1; strength < fitting.length; strength++) {
+                cells |= fitting[strength];
             }
-            return sure;
+            return Long.bitCount(cells) == 1 ? Long.bitCount(cells - 1L) : NONE;
         }
 
         int sureStrength() {
-            int sure = many == 0 ? NONE : fitAt(0) % LOUDEST + 1;
-            for (int k = 1; k < many; k++) {
-                if (fitAt(k) % LOUDEST + 1 != sure) {
-                    return NONE;
+            int sure = NONE;
+            for (int strength = 1; strength < fitting.length; strength++) {
+                if (fitting[strength] != 0L) {
+                    if (sure != NONE) {
+                        return NONE;
+                    }
+                    sure = strength;
                 }
             }
             return sure;
         }
 
         int bestAsked() {
-            if (many == 0) {
-                return NONE;
-            }
-            int best = 0;
-            int least = mostAlike(0);
-            for (int cell = 1; cell < PLACES; cell++) {
+            int best = NONE;
+            int least = fitCount() + 1;
+            for (int cell = 0; cell < PLACES && least > 1; cell++) {
                 int alike = mostAlike(cell);
                 if (alike < least) {
                     least = alike;
@@ -1873,44 +1895,51 @@ public final class TwoQuarries {
         }
 
         private int mostAlike(int cell) {
+            listenAt(cell);
+            int most = 0;
+            for (int loud = 0; loud < times.length; loud++) {
+                most = Math.max(most, times[loud]);
+            }
+            return most;
+        }
+
+        /** Counts how many of those that fit are heard at a cell how loud. */
+        private void listenAt(int cell) {
             for (int loud = 0; loud < times.length; loud++) {
                 times[loud] = 0;
             }
-            int most = 0;
-            for (int k = 0; k < many; k++) {
-                int loud = loudness(fitAt(k), cell);
-                if (loud >= 0 && loud < times.length) {
-                    times[loud]++;
-                    most = Math.max(most, times[loud]);
+            long closer = 0L;
+            long cells = near(cell, 0);
+            for (int steps = 0; steps <= FARTHEST; steps++) {
+                for (int strength = 1; strength < fitting.length; strength++) {
+                    int loud = Math.max(0, strength - steps);
+                    if (loud < times.length) {
+                        times[loud] += Long.bitCount(fitting[strength] & cells & ~closer);
+                    }
                 }
+                closer = cells;
+                cells |= nextTo(cells) & WIDEST;
             }
-            return most;
         }
 
         int faintestAt(int cell) {
-            int least = many == 0 ? NONE : LOUDEST;
-            for (int k = 0; k < many; k++) {
-                least = Math.min(least, loudness(fitAt(k), cell));
+            listenAt(cell);
+            for (int loud = 0; loud < times.length; loud++) {
+                if (times[loud] > 0) {
+                    return loud;
+                }
             }
-            return least;
+            return NONE;
         }
 
         int loudestAt(int cell) {
-            int most = NONE;
-            for (int k = 0; k < many; k++) {
-                most = Math.max(most, loudness(fitAt(k), cell));
-            }
-            return most;
-        }
-
-        int countNear(int cell, int n) {
-            int near = 0;
-            for (int k = 0; k < many; k++) {
-                if (steps(fitAt(k) / LOUDEST, cell) <= n) {
-                    near++;
+            listenAt(cell);
+            for (int loud = times.length - 1; loud >= 0; loud--) {
+                if (times[loud] > 0) {
+                    return loud;
                 }
             }
-            return near;
+            return NONE;
         }
     }
 
