@@ -9,6 +9,7 @@ public final class HillTest {
     public static void main(String[] args) {
         allChalk();
         stalls();
+        beam();
         wall();
         nothingButAir();
         widest();
@@ -158,6 +159,18 @@ public final class HillTest {
             Check.due("stalls: shored, 2", x.shored(0, n, 2), -1);
             Check.due("stalls: shored, -2", x.shored(0, n, -2), -1);
         }
+    }
+
+    /** Two props next to one another bear each other between two stones. */
+    private static void beam() {
+        TwoQuarries x = Check.drawn("cccc", "c..c", "c..c");
+        Check.due("beam: fell", x.fell(0, 2), 1);
+        Check.due("beam: propped", x.propped(0, 2, -1), 2);
+        Check.due("beam: propped, 0", x.propped(0, 2, 0), 5);
+        Check.due("beam: propped, 1", x.propped(0, 2, 1), 6);
+        TwoQuarries low = Check.drawn("cccc", "c..c");
+        Check.due("beam: one is enough", low.propped(0, 2, -1), 1);
+        Check.due("beam: that one", low.propped(0, 2, 0), 5);
     }
 
     private static void wall() {
