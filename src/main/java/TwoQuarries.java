@@ -42,8 +42,11 @@ public final class TwoQuarries {
     private static final long RIGHTMOST = 0x808080808080L;
     private static final long WIDEST = 0xFFFFFFFFFFFFL;
 
+    private static final int FIRST_WIDE = 6;
+    private static final int FIRST_HIGH = 4;
     private static final int MOST_WIDE = 8;
     private static final int MOST_HIGH = 6;
+    private static final int MOST_KNOCKED = 20;
     private static final int LOUDEST = 9;
     private static final int KINDS_FROM = 100;
     private static final int FITS_FROM = 10;
@@ -1240,7 +1243,7 @@ public final class TwoQuarries {
             place = NONE;
             told = 0L;
             hill.clear();
-            hill.size(6, 4);
+            hill.size(FIRST_WIDE, FIRST_HIGH);
             year.many = 0;
             log.many = 0;
             talk.many = 0;
@@ -1405,7 +1408,7 @@ public final class TwoQuarries {
                 return value >= 2 && value <= (i == 0 ? MOST_WIDE : MOST_HIGH);
             }
             if (sort == YEARS && which == KNOCK) {
-                return value <= 20;
+                return value <= MOST_KNOCKED;
             }
             if (i == 2) {
                 return value <= LOUDEST;

@@ -73,14 +73,14 @@ public final class LogTest {
         Check.due("sure of the cell", x.fits(0, 1), 0);
         Check.due("sure of the strength", x.fits(0, 2), 9);
         Check.due("ask, all alike", x.fits(0, 3), 0);
-        // 8 at two corners' steps: strength 9 is sure, the cell is not
+        // one step from both cells: strength 9 is sure, the cell is not
         TwoQuarries y = at("heard 0 0 8;heard 1 1 8;");
         Check.due("two fit", y.fits(0, 0), 2);
         Check.due("not sure of the cell", y.fits(0, 1), -1);
         Check.due("sure of the strength alone", y.fits(0, 2), 9);
         Check.due("fit 0", y.fits(0, 10), 9 * 1 + 8);
         Check.due("fit 1", y.fits(0, 11), 9 * 8 + 8);
-        // a striker of 1 or of none that is heard anywhere else: only in the corner nothing else is left
+        // one less on all four sides: he is in the middle
         TwoQuarries z = at("heard 3 3 4;heard 4 3 3;heard 2 3 3;heard 3 2 3;heard 3 4 3;");
         Check.due("sure in the middle", z.fits(0, 1), 27);
         Check.due("its strength", z.fits(0, 2), 4);
