@@ -93,16 +93,18 @@ public final class TwoQuarries {
     }
 
     public int text(int sort, int at) {
+        // The tape is taken even where no text is read: it is empty behind every call.
+        int length = book.length;
+        book.length = 0;
         book.fault = 0;
         book.place = NONE;
         int many = book.countOf(sort);
         if (sort < 0 || sort >= SORTS || at < NONE || at >= many || (at == NONE && many >= OF_A_SORT)) {
             return UNKNOWN;
         }
-        reader.read(book, sort);
+        reader.read(book.tape, length, sort);
         book.fault = reader.fault;
         book.place = reader.place;
-        book.length = 0;
         if (reader.fault != 0) {
             return NONE;
         }
@@ -1216,9 +1218,9 @@ public final class TwoQuarries {
         private int fault = 0;
         private int place = NONE;
 
-        void read(Book book, int sort) {
-            System.arraycopy(book.tape, 0, tape, 0, TAPE);
-            length = book.length;
+        void read(byte[] bytes, int many, int sort) {
+            length = Math.max(0, Math.min(many, Math.min(bytes.length, tape.length)));
+            System.arraycopy(bytes, 0, tape, 0, length);
             begin();
             for (int line = 0; line <= TAPE; line++) {
                 int token = next();

@@ -292,13 +292,13 @@ final class Model {
     }
 
     int text(int sort, int at) {
+        String text = new String(tape, java.nio.charset.StandardCharsets.ISO_8859_1);
+        tape = new byte[0];
         fault = 0;
         place = -1;
         if (sort < 0 || sort > 3 || at < -1 || at >= count(sort) || (at == -1 && count(sort) == 2)) {
             return -2;
         }
-        String text = new String(tape, java.nio.charset.StandardCharsets.ISO_8859_1);
-        tape = new byte[0];
         List<int[]> found = read(sort, text);
         Ground ground = fault == 0 && sort == 0 ? build(found, text.length()) : null;
         if (fault != 0) {

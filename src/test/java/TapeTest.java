@@ -68,17 +68,13 @@ public final class TapeTest {
         Check.due("count(3)", x.count(3), 2);
         Check.refused(x, Check.LOG, "word 4;", 1, 0);
         Check.due("end(1) when the tape was refused", x.end(1), -1);
-        Check.feed(x, "word 6;".getBytes());
-        Check.due("text() of a third talk", x.text(3, -1), -2);
-        Check.due("fault(0) of a third talk", x.fault(0), 0);
-        Check.due("fault(1) of a third talk", x.fault(1), -1);
-        Check.due("text() in the place of none", x.text(3, 2), -2);
-        Check.due("text() at -2", x.text(3, -2), -2);
-        Check.due("text() of no sort", x.text(4, -1), -2);
-        Check.due("text() of sort -1", x.text(-1, -1), -2);
-        Check.due("text() in the place of no hill", x.text(0, 0), -2);
-        Check.due("end(7): no text was read", x.end(7), 7);
-        Check.due("text() in the place of one", x.text(3, 1), 1);
+        notRead(x, "of a third talk", 3, -1);
+        notRead(x, "in the place of no third talk", 3, 2);
+        notRead(x, "at -2", 3, -2);
+        notRead(x, "of no sort", 4, -1);
+        notRead(x, "of sort -1", -1, -1);
+        notRead(x, "in the place of no hill", 0, 0);
+        Check.told(x, Check.TALK, 1, "word 6;", 1);
         Check.due("count(3) as before", x.count(3), 2);
         Check.due("talk(1, -1)", x.talk(1, -1), 1);
         Check.due("talk(1, 0)", x.talk(1, 0), 6);
@@ -87,6 +83,19 @@ public final class TapeTest {
         Check.due("talk(0, 0) behind a fault", x.talk(0, 0), 3);
         Check.due("fault(2)", x.fault(2), -1);
         Check.due("fault(-1)", x.fault(-1), -1);
+    }
+
+    /** A text() that answers -2 reads nothing, has no fault even behind one, and takes the tape all the same. */
+    private static void notRead(TwoQuarries x, String which, int sort, int at) {
+        Check.refused(x, Check.LOG, "word 4;", 1, 0);
+        Check.feed(x, "word 6;".getBytes());
+        Check.due("text() " + which, x.text(sort, at), -2);
+        Check.due("fault(0) of a text() " + which, x.fault(0), 0);
+        Check.due("fault(1) of a text() " + which, x.fault(1), -1);
+        Check.due("end(1) behind a text() " + which, x.end(1), -1);
+        Check.due("feed() behind a text() " + which, x.feed(0, 0, 0, 0, 0), 20);
+        Check.due("end(0)", x.end(0), 0);
+        Check.due("talk(1, 0) behind a text() " + which, x.talk(1, 0), 4);
     }
 
     private static void highestByteFirst() {
