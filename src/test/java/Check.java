@@ -25,6 +25,10 @@ final class Check {
         due(call, got ? 1L : 0L, want ? 1L : 0L);
     }
 
+    static int count() {
+        return checked;
+    }
+
     /** Ends the test program: with exit code 1 if an answer was wrong. */
     static void close(String test) {
         System.out.println(test + ": " + checked + " answers, " + wrong + " wrong");
@@ -52,6 +56,37 @@ final class Check {
         return number;
     }
 
+    /** What is told, but for the tape, as one text: alike before and behind calls that change nothing. */
+    static String allTold(TwoQuarries x) {
+        StringBuilder all = new StringBuilder();
+        for (int sort = 0; sort < 4; sort++) {
+            all.append(x.count(sort)).append(' ');
+        }
+        all.append(x.fault(0)).append(' ').append(x.fault(1)).append(';');
+        for (int i = 0; i < 2; i++) {
+            all.append(x.hill(i, 0)).append(' ').append(x.hill(i, 1)).append(':');
+            for (int c = 0; c < 48 && x.hill(i, 100 + c) >= 0; c++) {
+                all.append(x.hill(i, 100 + c));
+            }
+            for (int k = 0; k < x.deed(i, -1, 0); k++) {
+                all.append(' ').append(x.deed(i, k, 0)).append(' ').append(x.deed(i, k, 1)).append(' ').append(x.deed(i, k, 2));
+            }
+            for (int k = 0; k < x.fact(i, -1, 0); k++) {
+                all.append(' ').append(x.fact(i, k, 0)).append(' ').append(x.fact(i, k, 1));
+            }
+            for (int k = 0; k < x.talk(i, -1); k++) {
+                all.append(' ').append(x.talk(i, k));
+            }
+            all.append(';');
+        }
+        return all.toString();
+    }
+
+    /** All is told as it was: the calls in between have changed nothing. */
+    static void unchanged(String calls, TwoQuarries x, String before) {
+        due(calls + " changed nothing of " + before, before.equals(allTold(x)), true);
+    }
+
     static int tell(TwoQuarries x, int sort, int at, String text) {
         feed(x, text.getBytes(StandardCharsets.ISO_8859_1));
         return x.text(sort, at);
@@ -66,7 +101,11 @@ final class Check {
 
     /** Tells a text that must be refused. */
     static void refused(TwoQuarries x, int sort, String text, int fault, int place) {
-        due("text(" + sort + ", -1) of '" + text + "'", tell(x, sort, -1, text), -1);
+        answered(x, sort, text, fault, place, -1);
+    }
+
+    static void answered(TwoQuarries x, int sort, String text, int fault, int place, int number) {
+        due("text(" + sort + ", -1) of '" + text + "'", tell(x, sort, -1, text), number);
         due("fault(0) of '" + text + "'", x.fault(0), fault);
         due("fault(1) of '" + text + "'", x.fault(1), place);
     }
