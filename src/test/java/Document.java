@@ -2,6 +2,7 @@ import java.io.IOException;
 import java.nio.charset.StandardCharsets;
 import java.nio.file.Files;
 import java.nio.file.Path;
+import java.util.Arrays;
 import java.util.LinkedHashMap;
 import java.util.Map;
 
@@ -69,7 +70,7 @@ final class Document {
         if (at < 0) {
             throw new IllegalArgumentException("not said: " + latest);
         }
-        java.util.Arrays.fill(QUOTED.get(part), at, at + quote.length(), true);
+        Arrays.fill(QUOTED.get(part), at, at + quote.length(), true);
     }
 
     private static void endCase() {

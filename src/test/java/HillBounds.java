@@ -40,8 +40,8 @@ final class HillBounds {
     }
 
     private static void standing() {
-        Document.says("Term 2", "A STONE or a PROP STANDS, if it is in the lowest row, or the CELL below it is not AIR, or there are"
-                + " CELLS left and right of it (in its row), neither of which is AIR.");
+        Document.says("Term 2", "A STONE or a PROP STANDS, if it is in the lowest row, or the CELL below it is not"
+                + " AIR, or there are CELLS left and right of it (in its row), neither of which is AIR.");
         for (char middle : "cmgp".toCharArray()) {
             for (char left : ".cmgp".toCharArray()) {
                 for (char right : ".cmgp".toCharArray()) {
@@ -79,7 +79,8 @@ final class HillBounds {
     }
 
     private static void falling() {
-        Document.says("Term 2", "FALL: as long as one does not STAND, the first of these by numbers is AIR; it is LOST.");
+        Document.says("Term 2", "FALL: as long as one does not STAND, the first of these by numbers is AIR; it is"
+                + " LOST.");
         TwoQuarries x = Check.drawn("c.", "m.", "p.", "g.", "p.", "cc");
         int[] due = {0, -1, 1, -1, -1, -1, 3, -1, -1, -1, 5, 0};
         for (int cell = 0; cell < due.length; cell++) {
@@ -114,8 +115,8 @@ final class HillBounds {
     }
 
     private static void reached() {
-        Document.says("Term 2", "REACHED by a SIDE are AIR CELLS to which there is a way of AIR CELLS (up, right, down, left) from one"
-                + " in its outermost column (0 of NORTH, the last of SOUTH).");
+        Document.says("Term 2", "REACHED by a SIDE are AIR CELLS to which there is a way of AIR CELLS (up, right,"
+                + " down, left) from one in its outermost column (0 of NORTH, the last of SOUTH).");
         TwoQuarries shut = Check.drawn("ppppp", "p.g.p", "ppppp");
         cuts(shut, "a shut cave", 0, false);
         cuts(shut, "a shut cave", 1, false);
@@ -143,7 +144,10 @@ final class HillBounds {
         ways("south 0 0;", "m..##/p#.##/p#.##/p#...", "m....", "p....", "p....", "p....");
     }
 
-    /** Props make a way of air (#: a prop; .: the way): by it the stone can be cut, and not if any cell of it is a prop, too. */
+    /**
+     * Props make a way of air (#: a prop; .: the way): by it the stone can be cut, and not if any cell of it is a prop,
+     * too.
+     */
     private static void ways(String cut, String walls, String... rows) {
         TwoQuarries x = Check.drawn(rows);
         StringBuilder props = new StringBuilder();
@@ -167,7 +171,8 @@ final class HillBounds {
     }
 
     private static void cutting() {
-        Document.says("Term 2", "It can CUT a STONE that is in its outermost column or next to a CELL that it has REACHED.");
+        Document.says("Term 2", "It can CUT a STONE that is in its outermost column or next to a CELL that it has"
+                + " REACHED.");
         TwoQuarries column = Check.drawn("c...c", "m...m", "p...p", "g...g");
         cuts(column, "columns", 0, false, 0, 5, 15);
         cuts(column, "columns", 1, false, 4, 9, 19);
@@ -192,8 +197,9 @@ final class HillBounds {
     }
 
     private static void thick() {
-        Document.says("Term 2", "THICK: the fewest STONES on a way of CELLS that are no PROP (up, right, down, left), from one in column 0"
-                + " to one in the last column (both counted): 0: it is THROUGH; NONE: there is no way.");
+        Document.says("Term 2", "THICK: the fewest STONES on a way of CELLS that are no PROP (up, right, down, left),"
+                + " from one in column 0 to one in the last column (both counted): 0: it is THROUGH; NONE: there is"
+                + " no way.");
         for (int wide = 2; wide <= 8; wide++) {
             String full = "g".repeat(wide);
             String inner = "." + "c".repeat(wide - 2) + ".";
@@ -215,8 +221,8 @@ final class HillBounds {
     }
 
     private static void hillAsked() {
-        Document.says("Promise 6", "Of a HILL, what 0: WIDE, 1: HIGH, 2: how many STONES, 3: their WORTH together, 100 + c: KIND of a"
-                + " CELL.");
+        Document.says("Promise 6", "Of a HILL, what 0: WIDE, 1: HIGH, 2: how many STONES, 3: their WORTH together,"
+                + " 100 + c: KIND of a CELL.");
         TwoQuarries x = Check.drawn("c.m.g.p.", "cmgpcmgp", "cccccccc", "mmmmmmmm", "gggggggg", "pppppppp");
         int[] due = {8, 6, 3 + 6 + 24, 7 + 14 + 8 + 32 + 16};
         for (int what = 0; what < due.length; what++) {
@@ -310,7 +316,8 @@ final class HillBounds {
     }
 
     private static void cutsAsked() {
-        Document.says("Promise 11", "CUTS of a SIDE, or (safe) SAFE ones: how many (k NONE), or the k-th CELL, numbers rising.");
+        Document.says("Promise 11", "CUTS of a SIDE, or (safe) SAFE ones: how many (k NONE), or the k-th CELL,"
+                + " numbers rising.");
         TwoQuarries x = Check.drawn("........", "cmgcmgcm", "cmgcmgcm");
         cuts(x, "a row", 0, false, 8, 9, 10, 11, 12, 13, 14, 15, 16);
         cuts(x, "a row", 1, false, 8, 9, 10, 11, 12, 13, 14, 15, 23);

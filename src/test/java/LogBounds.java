@@ -1,3 +1,5 @@
+import java.util.Arrays;
+
 /** The edges of promises 18, 19, 29 and 35: fact, fits, range, within. */
 final class LogBounds {
     private static final int MAX = HillBounds.MAX;
@@ -55,12 +57,12 @@ final class LogBounds {
                 found[many++] = striker;
             }
         }
-        return java.util.Arrays.copyOf(found, many);
+        return Arrays.copyOf(found, many);
     }
 
     private static void heard() {
-        Document.says("Term 4", "By a LOG: a STRIKER is in a CELL, his STRENGTH is 1 .. 9: what is HEARD at a CELL is that less the steps from"
-                + " there to him (by columns and rows), 0 at least.");
+        Document.says("Term 4", "By a LOG: a STRIKER is in a CELL, his STRENGTH is 1 .. 9: what is HEARD at a CELL is"
+                + " that less the steps from there to him (by columns and rows), 0 at least.");
         // how many cells are near enough for it; 0 is heard of all others, too
         int[] corner = {278, 38, 33, 27, 21, 15, 10, 6, 3, 1};
         int[] middle = {168, 48, 48, 47, 43, 35, 24, 13, 5, 1};
@@ -80,8 +82,8 @@ final class LogBounds {
     }
 
     private static void fitting() {
-        Document.says("Term 4", "CELLS and STRENGTHS (9 times the CELL, and STRENGTH less 1) FIT, if all FACTS are so: how many; the k-th, by"
-                + " numbers;");
+        Document.says("Term 4", "CELLS and STRENGTHS (9 times the CELL, and STRENGTH less 1) FIT, if all FACTS are"
+                + " so: how many; the k-th, by numbers;");
         for (String log : LOGS) {
             TwoQuarries x = at(log);
             int[] due = thatFit(x);
@@ -105,7 +107,8 @@ final class LogBounds {
                 int c = column + off[0];
                 int r = row + off[1];
                 if (c >= 0 && c < 8 && r >= 0 && r < 6) {
-                    log.append("heard ").append(c).append(' ').append(r).append(' ').append(heardOf(striker, 8 * r + c)).append(';');
+                    String cell = "heard " + c + " " + r + " ";
+                    log.append(cell).append(heardOf(striker, 8 * r + c)).append(';');
                 }
             }
             TwoQuarries x = at(log.toString());
@@ -126,8 +129,8 @@ final class LogBounds {
     }
 
     private static void ask() {
-        Document.says("Term 4", "ASK: the CELL at which of those that FIT the greatest number by which one and the same is HEARD is least, of"
-                + " several the least.");
+        Document.says("Term 4", "ASK: the CELL at which of those that FIT the greatest number by which one and the"
+                + " same is HEARD is least, of several the least.");
         for (String log : LOGS) {
             int[] fits = thatFit(at(log));
             int best = -1;
@@ -152,25 +155,28 @@ final class LogBounds {
     }
 
     private static void range() {
-        Document.says("Term 5", "By a LOG: RANGE of a CELL, 0 .. 47: the least, the most that is HEARD there by any that FITS.");
+        Document.says("Term 5", "By a LOG: RANGE of a CELL, 0 .. 47: the least, the most that is HEARD there by any"
+                + " that FITS.");
         for (String log : LOGS) {
             int[] fits = thatFit(at(log));
             TwoQuarries x = at(log);
-            for (int cell = 0; cell < 48; cell++) {
-                int least = 10;
-                int most = -1;
+            for (int call = 0; call < 96; call++) {
+                boolean asksMost = call < 48;
+                int cell = call % 48;
+                int due = fits.length == 0 ? -1 : heardOf(fits[0], cell);
                 for (int striker : fits) {
-                    least = Math.min(least, heardOf(striker, cell));
-                    most = Math.max(most, heardOf(striker, cell));
+                    int much = heardOf(striker, cell);
+                    due = asksMost ? Math.max(due, much) : Math.min(due, much);
                 }
-                Check.due("least at " + cell + " by '" + log + "'", x.range(0, cell, false), fits.length == 0 ? -1 : least);
-                Check.due("most at " + cell + " by '" + log + "'", x.range(0, cell, true), most);
+                String name = (asksMost ? "most at " : "least at ") + cell + " by '" + log + "'";
+                Check.due(name, x.range(0, cell, asksMost), due);
             }
         }
     }
 
     private static void within() {
-        Document.says("Term 6", "By a LOG: WITHIN of a CELL, n, 0 .. 12: how many of those that FIT are n steps or less from it.");
+        Document.says("Term 6", "By a LOG: WITHIN of a CELL, n, 0 .. 12: how many of those that FIT are n steps or"
+                + " less from it.");
         for (String log : LOGS) {
             int[] fits = thatFit(at(log));
             for (int n = 0; n <= 12; n++) {
@@ -191,8 +197,8 @@ final class LogBounds {
     }
 
     private static void factAsked() {
-        Document.says("Promise 18", "How many FACTS (k NONE, what 0); of FACT k, what 0: the CELL (8 times the row, and the column), 1: how"
-                + " much.");
+        Document.says("Promise 18", "How many FACTS (k NONE, what 0); of FACT k, what 0: the CELL (8 times the row,"
+                + " and the column), 1: how much.");
         TwoQuarries x = at("heard 0 0 0;heard 7 0 9;heard 0 5 1;heard 7 5 8;heard 3 2 5;");
         Check.told(x, Check.LOG, -1, "", 1);
         int[][] due = {{0, 0}, {7, 9}, {40, 1}, {47, 8}, {19, 5}};
@@ -226,8 +232,8 @@ final class LogBounds {
     }
 
     private static void fitsAsked() {
-        Document.says("Promise 19", "What 0: how many FIT, 1, 2: SURE of the CELL, the STRENGTH (NONE: not one), 3: ASK (NONE: nothing FITS), 10"
-                + " + k: the k-th.");
+        Document.says("Promise 19", "What 0: how many FIT, 1, 2: SURE of the CELL, the STRENGTH (NONE: not one), 3:"
+                + " ASK (NONE: nothing FITS), 10 + k: the k-th.");
         String[] logs = {"heard 0 0 9;", "heard 7 5 8;", "heard 0 0 9;heard 0 0 8;", "", "heard 0 0 8;heard 1 1 8;"};
         int[][] due = {{1, 0, 9, 0}, {3, -1, -1, 3}, {0, -1, -1, -1}, {432, -1, -1, 0}, {2, -1, 9, 1}};
         for (int i = 0; i < logs.length; i++) {
@@ -267,7 +273,8 @@ final class LogBounds {
     }
 
     private static void rangeAsked() {
-        Document.says("Promise 29", "RANGE of a CELL: the least, or (most) the most. NONE: nothing FITS, or there is none such (of either).");
+        Document.says("Promise 29", "RANGE of a CELL: the least, or (most) the most. NONE: nothing FITS, or there is"
+                + " none such (of either).");
         TwoQuarries x = at("heard 7 5 8;");
         Check.told(x, Check.LOG, -1, "heard 0 0 9;heard 0 0 8;", 1);
         Check.due("least", x.range(0, 46, false), 7);

@@ -1,3 +1,5 @@
+import java.util.Arrays;
+
 /** The edges of promises 13, 14, 26 and 27: rich, duel, steady, race. */
 final class PlanBounds {
     private static final int MAX = HillBounds.MAX;
@@ -32,8 +34,8 @@ final class PlanBounds {
     }
 
     private static void rich() {
-        Document.says("Term 3", "RICH of a SIDE, n, 0 .. 3: one behind the other n CUTS, or fewer, by none of which anything is LOST: most"
-                + " WORTH; the first such row of CELLS by numbers, of these the shortest.");
+        Document.says("Term 3", "RICH of a SIDE, n, 0 .. 3: one behind the other n CUTS, or fewer, by none of which"
+                + " anything is LOST: most WORTH; the first such row of CELLS by numbers, of these the shortest.");
         // one behind the other: each opens the next one, whatever its number
         TwoQuarries row = Check.drawn("cmg", "ppp");
         rich(row, "a row", 0, 0, 0);
@@ -109,13 +111,20 @@ final class PlanBounds {
     }
 
     private static void duel() {
-        Document.says("Term 3", "DUEL of n, 0 .. 3: by turns, NORTH first, n times in all, each cuts a STONE that he can CUT, or nothing: by"
-                + " how much NORTH has more WORTH than SOUTH in the end, if both do as best they can for that (below 0, if less);");
+        Document.says("Term 3", "DUEL of n, 0 .. 3: by turns, NORTH first, n times in all, each cuts a STONE that he"
+                + " can CUT, or nothing: by how much NORTH has more WORTH than SOUTH in the end, if both do as best"
+                + " they can for that (below 0, if less);");
         TwoQuarries even = Check.drawn("cc", "cc");
         duel(even, "even", 0, 0, -1000);
         duel(even, "even", 1, 1, 0);
         duel(even, "even", 2, 0, 0);
         duel(even, "even", 3, 1, 0);
+        Check.due("even: duel of 0 once more", even.duel(0, 0, false), 0);
+        // if north left the first cell to south, south would take it
+        TwoQuarries first = Check.drawn("m.", "gp");
+        duel(first, "first cell", 1, 4, 0);
+        duel(first, "first cell", 2, 2, 0);
+        duel(first, "first cell", 3, 2, 0);
         // below 0, for south has more at hand
         TwoQuarries less = Check.drawn("cpm", "ppm");
         duel(less, "less", 1, 1, 0);
@@ -157,8 +166,8 @@ final class PlanBounds {
     }
 
     private static void duelRefused() {
-        Document.says("Promise 14", "DUEL of n: by how much, or (first) what NORTH cuts first. -1000: another n, there is none such, or"
-                + " (first) n is 0.");
+        Document.says("Promise 14", "DUEL of n: by how much, or (first) what NORTH cuts first. -1000: another n,"
+                + " there is none such, or (first) n is 0.");
         TwoQuarries x = Check.drawn("mc", "cc");
         duel(x, "asked", 0, 0, -1000);
         duel(x, "asked", 1, 4, 0);
@@ -183,12 +192,12 @@ final class PlanBounds {
     }
 
     private static void steady() {
-        Document.says("Term 5", "STEADY of a SIDE: again and again it cuts the SAFE one of least number, until there is none: how many CUTS;"
-                + " their WORTH.");
+        Document.says("Term 5", "STEADY of a SIDE: again and again it cuts the SAFE one of least number, until there"
+                + " is none: how many CUTS; their WORTH.");
         for (int side = 0; side < 2; side++) {
             for (int wide = 2; wide <= 8; wide++) {
                 String[] rows = new String[6];
-                java.util.Arrays.fill(rows, "m".repeat(wide));
+                Arrays.fill(rows, "m".repeat(wide));
                 steady(side, 6 * wide, 24 * wide, rows);
             }
             steady(side, 0, 0, "..", "pp");
@@ -206,7 +215,8 @@ final class PlanBounds {
     }
 
     private static void steadyAsked() {
-        Document.says("Promise 26", "STEADY of a SIDE: how many, or (worth) their WORTH. NONE: another SIDE, or there is none such.");
+        Document.says("Promise 26", "STEADY of a SIDE: how many, or (worth) their WORTH. NONE: another SIDE, or there"
+                + " is none such.");
         TwoQuarries x = Check.drawn("..", "mm");
         for (boolean worth : new boolean[] {false, true}) {
             Check.due("steady", x.steady(0, 1, worth), worth ? 8 : 2);
@@ -227,8 +237,9 @@ final class PlanBounds {
     }
 
     private static void race() {
-        Document.says("Term 5", "RACE of n, 0 .. 40: by turns, NORTH first, n times in all, each cuts the SAFE one of most WORTH, of several"
-                + " the least (none: nothing): WORTH of NORTH, of SOUTH, THICK behind all (NONE).");
+        Document.says("Term 5", "RACE of n, 0 .. 40: by turns, NORTH first, n times in all, each cuts the SAFE one of"
+                + " most WORTH, of several the least (none: nothing): WORTH of NORTH, of SOUTH, THICK behind all"
+                + " (NONE).");
         // safe ones alone: the granite and the marble come when nothing lies on them
         TwoQuarries wall = Check.drawn("cpc", "gpm");
         int[][] due = {{0, 0}, {1, 0}, {1, 1}, {3, 1}, {3, 5}, {3, 5}, {3, 5}};
@@ -269,8 +280,8 @@ final class PlanBounds {
     }
 
     private static void raceAsked() {
-        Document.says("Promise 27", "RACE of n, what 0, 1: WORTH of NORTH, of SOUTH, 2: THICK. -2: another n, there is none such, or for"
-                + " another what.");
+        Document.says("Promise 27", "RACE of n, what 0, 1: WORTH of NORTH, of SOUTH, 2: THICK. -2: another n, there"
+                + " is none such, or for another what.");
         TwoQuarries x = Check.drawn("cc", "cc");
         race(x, "asked", 0, 0, 0, 2);
         race(x, "asked", 40, 2, 2, 0);

@@ -1,3 +1,6 @@
+import java.math.BigInteger;
+import java.util.Arrays;
+
 /** The edges of promises 15 to 17, 22 to 25 and 31 to 34: what else is asked of a hill as told. */
 final class SurveyBounds {
     private static final int MAX = HillBounds.MAX;
@@ -46,8 +49,8 @@ final class SurveyBounds {
     }
 
     private static void border() {
-        Document.says("Term 3", "BORDER: the column, 0 to WIDE, ahead of which WORTH of all STONES together differs least from that of"
-                + " all others, of several the least; how much.");
+        Document.says("Term 3", "BORDER: the column, 0 to WIDE, ahead of which WORTH of all STONES together differs"
+                + " least from that of all others, of several the least; how much.");
         // without stones all columns are alike; with one stone, too, but for how much
         border(0, 0, "..", "..");
         border(0, 0, "........", "pppppppp");
@@ -64,7 +67,8 @@ final class SurveyBounds {
         border(2, 1, "....", "cccg");
         border(1, 3, "..", "cm");
         border(1, 3, "..", "mc");
-        // all rows together; props are worth nothing
+        // all rows together, however high; props are worth nothing
+        border(1, 0, "c.", "c.", "c.", "c.", "cm", "cg");
         border(1, 2, "m..", "ccg");
         border(1, 0, "mp", "pm");
         border(1, 0, "gg", "cc");
@@ -90,8 +94,8 @@ final class SurveyBounds {
     }
 
     private static void propped() {
-        Document.says("Term 3", "PROPPED of a CELL with a STONE: the fewest PROPS, 2 at most, on other CELLS that are AIR, so that nothing"
-                + " is LOST by its being AIR; the first row of them, rising, by numbers.");
+        Document.says("Term 3", "PROPPED of a CELL with a STONE: the fewest PROPS, 2 at most, on other CELLS that are"
+                + " AIR, so that nothing is LOST by its being AIR; the first row of them, rising, by numbers.");
         TwoQuarries none = Check.drawn("ccc", "ccc");
         propped(none, "none is needed", 0);
         propped(none, "none is needed", 4);
@@ -106,6 +110,8 @@ final class SurveyBounds {
         TwoQuarries beam = Check.drawn("ccc.", "c.c.", "c.cc");
         propped(beam, "held from both sides", 2, 5);
         propped(beam, "held from below", 6, 3, 7);
+        TwoQuarries first = Check.drawn(".cc", "ccc");
+        propped(first, "on the first cell", 4, 0);
         TwoQuarries pillar = Check.drawn(".....", "p.c.p", "p.c.p");
         propped(pillar, "left and right", 12, 6, 8);
         TwoQuarries prop = Check.drawn(".p.", "ccc");
@@ -124,7 +130,10 @@ final class SurveyBounds {
         propped(x, "of several the first", 0, 5, 6);
         propped(x, "of several the first", 1, 5, 6);
         propped(x, "of several the first", 2, 5, 6);
-        Check.told(x, Check.HILL, -1, Check.textOf("cccccccc", "cc.ccccc", "cc.ccccc", "cccccccc", "cccccccc", "cccccccc"), 1);
+        String[] widest = WIDEST.clone();
+        widest[1] = "cc.ccccc";
+        widest[2] = "cc.ccccc";
+        Check.told(x, Check.HILL, -1, Check.textOf(widest), 1);
         Check.due("the last cell of the widest hill", x.propped(1, 47, -1), -1);
         Check.due("one that bears nothing", x.propped(1, 46, -1), 0);
         Check.due("of the other hill", x.propped(1, 1, -1), 1);
@@ -159,8 +168,9 @@ final class SurveyBounds {
     }
 
     private static void quake() {
-        Document.says("Term 3", "QUAKE of p, 0 .. 10: each STONE in the lowest row is AIR by p of ten, by itself, then FALL: how many are"
-                + " LOST in the mean (those that the quake takes not counted), a fraction in least terms.");
+        Document.says("Term 3", "QUAKE of p, 0 .. 10: each STONE in the lowest row is AIR by p of ten, by itself,"
+                + " then FALL: how many are LOST in the mean (those that the quake takes not counted), a fraction in"
+                + " least terms.");
         TwoQuarries column = Check.drawn("c.", "p.", "mp");
         long[][] due = {{0, 1}, {1, 5}, {2, 5}, {3, 5}, {4, 5}, {1, 1}, {6, 5}, {7, 5}, {8, 5}, {9, 5}, {2, 1}};
         for (int p = 0; p <= 10; p++) {
@@ -172,7 +182,7 @@ final class SurveyBounds {
         for (int wide = 2; wide <= 8; wide++) {
             for (int high = 2; high <= 6; high++) {
                 String[] rows = new String[high];
-                java.util.Arrays.fill(rows, "c".repeat(wide));
+                Arrays.fill(rows, "c".repeat(wide));
                 blocks(Check.drawn(rows), wide, high);
             }
         }
@@ -193,7 +203,7 @@ final class SurveyBounds {
                 above = above * 10 + 2 * power;
             }
             above = (above - wide * power) * (high - 1);
-            long common = java.math.BigInteger.valueOf(above).gcd(java.math.BigInteger.valueOf(under)).longValue();
+            long common = BigInteger.valueOf(above).gcd(BigInteger.valueOf(under)).longValue();
             fraction(x, wide + " by " + high, p, above / common, under / common);
         }
     }
@@ -220,13 +230,19 @@ final class SurveyBounds {
     }
 
     private static void path() {
-        Document.says("Term 5", "(Of a HILL as told.) PATH: of ways as of THICK that have no more STONES than that: the fewest CELLS of"
-                + " one.");
+        Document.says("Term 5", "(Of a HILL as told.) PATH: of ways as of THICK that have no more STONES than that:"
+                + " the fewest CELLS of one.");
         for (int wide = 2; wide <= 8; wide++) {
             path(wide, "c".repeat(wide), "c".repeat(wide));
             path(wide, ".".repeat(wide), "p".repeat(wide));
         }
         path(13, HillBounds.BENT);
+        // the one stone at the beginning, on the way, at its end
+        path(3, "c..", "cpp");
+        path(3, ".c.", "ppp");
+        path(3, "..c", "ppc");
+        path(8, ".cc.c.cc", "pppppppp");
+        path(8, "c.c.c.c.", "pppppppp");
         // more cells, as that saves a stone; of as many stones the fewer cells
         path(7, "p...p", "p...p", "ccccc");
         path(5, "p...p", "p...p", "cc.cc");
@@ -239,6 +255,12 @@ final class SurveyBounds {
         Check.told(x, Check.HILL, -1, Check.textOf("cpc", "cpc"), 1);
         Check.due("path", x.path(0), 2);
         Check.due("no way", x.path(1), -1);
+        Check.told(x, Check.HILL, 1, Check.textOf(HillBounds.BENT), 1);
+        Check.told(x, Check.HILL, 0, Check.textOf("p...p", "p...p", "ccccc"), 0);
+        for (int round = 0; round < 3; round++) {
+            Check.due("a long path", x.path(1), 13);
+            Check.due("a short path", x.path(0), 7);
+        }
         for (int hill : new int[] {MIN, -2, -1, 2, 3, MAX}) {
             Check.due("path of hill " + hill, x.path(hill), -1);
         }
@@ -253,8 +275,8 @@ final class SurveyBounds {
     }
 
     private static void caves() {
-        Document.says("Term 5", "CAVES: parts of AIR CELLS that are joined (up, right, down, left): how many; how many CELLS the largest"
-                + " has.");
+        Document.says("Term 5", "CAVES: parts of AIR CELLS that are joined (up, right, down, left): how many; how"
+                + " many CELLS the largest has.");
         caves(0, 0, 0, true, WIDEST);
         caves(1, 48, 8, true, "........", "........", "........", "........", "........", "........");
         caves(1, 1, 1, false, ".c", "cc");
@@ -294,12 +316,13 @@ final class SurveyBounds {
                 Check.due("lowest " + left + right, Check.drawn("..", "" + left + right).caves(0, 3), due);
             }
         }
+        Check.due("all rows of a high hill", Check.drawn("..", "..", "..", "..", "..", "cp").caves(0, 3), 0);
         Check.due("rows are not changed about", Check.drawn("mcm", "cmc").caves(0, 3), 1);
     }
 
     private static void cavesAsked() {
-        Document.says("Promise 23", "What 0: CAVES, 1: the largest, 2: SPAN, 3: 1 if it is MIRRORED, else 0. NONE: there is none such, or"
-                + " for another what.");
+        Document.says("Promise 23", "What 0: CAVES, 1: the largest, 2: SPAN, 3: 1 if it is MIRRORED, else 0. NONE:"
+                + " there is none such, or for another what.");
         caves(2, 3, 2, false, "..cc.", ".cccc");
         TwoQuarries x = Check.drawn("..", "cc");
         for (int what : new int[] {MIN, -2, -1, 4, 5, 100, MAX}) {
@@ -349,9 +372,9 @@ final class SurveyBounds {
     }
 
     private static void nearer() {
-        Document.says("Term 5", "NEARER of a SIDE: WORTH of STONES to which it comes by fewer STONES (that one counted, too) than the"
-                + " other SIDE does (by ways as of THICK, from its own outermost column), together; a SIDE that does not come to it at all"
-                + " comes by more than any.");
+        Document.says("Term 5", "NEARER of a SIDE: WORTH of STONES to which it comes by fewer STONES (that one"
+                + " counted, too) than the other SIDE does (by ways as of THICK, from its own outermost column),"
+                + " together; a SIDE that does not come to it at all comes by more than any.");
         for (int wide = 2; wide <= 8; wide++) {
             String full = "g".repeat(wide);
             // of an odd row the middle one is as near to both
@@ -387,8 +410,8 @@ final class SurveyBounds {
     }
 
     private static void comes() {
-        Document.says("Term 6", "(Of a HILL as told.) COMES of a SIDE to a CELL: the fewest STONES (that CELL's, too) on a way, as of THICK,"
-                + " from its outermost column.");
+        Document.says("Term 6", "(Of a HILL as told.) COMES of a SIDE to a CELL: the fewest STONES (that CELL's, too)"
+                + " on a way, as of THICK, from its outermost column.");
         TwoQuarries bent = Check.drawn(HillBounds.BENT);
         comes(bent, 0, -1, 3, 3, 3, 3, -1, 3, -1, -1, -1, -1, 2, 2, 2, -1, -1, -1, -1, 2, -1, 1, 1, 1, 1, -1);
         comes(bent, 1, -1, 0, 0, 0, 0, -1, 1, -1, -1, -1, -1, 1, 1, 1, -1, -1, -1, -1, 2, -1, 3, 2, 2, 2, -1);
@@ -431,6 +454,7 @@ final class SurveyBounds {
         crest(0, 0, "..", "pp");
         crest(0, 8, WIDEST);
         crest(5, 9, "cccccccc", "cccccccc", "cccccccc", "cccccccc", "cccccccc", "cccccccg");
+        crest(5, 3, "..", "..", "..", "..", "cc", "cg");
         crest(1, 4, ".....", "....m", "cccpp", "ggppp");
         crest(1, 5, "cccc", "ppcm", "cppg");
         crest(0, 32, "mmmmmmmm", "gggggggg");
@@ -456,8 +480,9 @@ final class SurveyBounds {
     }
 
     private static void shored() {
-        Document.says("Term 6", "SHORED of n, 0 .. 2: n PROPS on CELLS that are AIR, where they STAND, put together, so that SAFE ones of"
-                + " both SIDES (each counted by itself) are most: how many; the first row of them, rising, by numbers.");
+        Document.says("Term 6", "SHORED of n, 0 .. 2: n PROPS on CELLS that are AIR, where they STAND, put together,"
+                + " so that SAFE ones of both SIDES (each counted by itself) are most: how many; the first row of"
+                + " them, rising, by numbers.");
         // without props a beam's ends are not safe; one prop below makes them so
         TwoQuarries beam = Check.drawn("ccc", "c.c");
         shored(beam, "beam", 0, 0);
@@ -483,8 +508,8 @@ final class SurveyBounds {
     }
 
     private static void shoredAsked() {
-        Document.says("Promise 33", "SHORED of n: how many (k NONE), or the k-th CELL. NONE: not so many CELLS that are AIR where they"
-                + " STAND, not so many, another n, or there is none such.");
+        Document.says("Promise 33", "SHORED of n: how many (k NONE), or the k-th CELL. NONE: not so many CELLS that"
+                + " are AIR where they STAND, not so many, another n, or there is none such.");
         TwoQuarries x = Check.drawn("cccc", "cc.c");
         shored(x, "one cell of air", 0, 1);
         shored(x, "one cell of air", 1, 2, 6);

@@ -1,3 +1,5 @@
+import java.util.Arrays;
+
 /** The edges of promises 20, 30 and 36: talk, plain, deepest. */
 final class TalkBounds {
     private static final int MAX = HillBounds.MAX;
@@ -27,17 +29,18 @@ final class TalkBounds {
     }
 
     private static void code(int due, int... often) {
-        Check.due("code of " + java.util.Arrays.toString(often), at(often).talk(0, -2), due);
+        Check.due("code of " + Arrays.toString(often), at(often).talk(0, -2), due);
         int[] turned = new int[often.length];
         for (int k = 0; k < often.length; k++) {
             turned[k] = often[often.length - 1 - k];
         }
-        Check.due("code of " + java.util.Arrays.toString(turned), at(turned).talk(0, -2), due);
+        Check.due("code of " + Arrays.toString(turned), at(turned).talk(0, -2), due);
     }
 
     private static void code() {
-        Document.says("Term 4", "(Of a TALK.) CODE: each WORD is a row of blows, short, 1, or long, 2, one at least, none the beginning of another"
-                + " one: the fewest that are struck if each WORD is told as OFTEN as told, all together (a long one counts 2).");
+        Document.says("Term 4", "(Of a TALK.) CODE: each WORD is a row of blows, short, 1, or long, 2, one at least,"
+                + " none the beginning of another one: the fewest that are struck if each WORD is told as OFTEN as"
+                + " told, all together (a long one counts 2).");
         code(0);
         // one word: one blow at least
         code(0, 0);
@@ -73,8 +76,9 @@ final class TalkBounds {
     }
 
     private static void plain() {
-        Document.says("Term 5", "Of a TALK: PLAIN: WORDS are told by short blows alone, the one most OFTEN, of several the least, by 1, the next"
-                + " by 2, and so on: how many are struck in all; how many of them a WORD has.");
+        Document.says("Term 5", "Of a TALK: PLAIN: WORDS are told by short blows alone, the one most OFTEN, of"
+                + " several the least, by 1, the next by 2, and so on: how many are struck in all; how many of them a"
+                + " WORD has.");
         plain(at(), 0);
         plain(at(0), 0, 1);
         plain(at(99), 99, 1);
@@ -87,8 +91,8 @@ final class TalkBounds {
     }
 
     private static void deepest() {
-        Document.says("Term 6", "Of a TALK: DEEPEST: the fewest blows that the longest WORD of a code (as of CODE, a long one counts 2) has, if"
-                + " that is to be as short as can be (without WORDS: 0).");
+        Document.says("Term 6", "Of a TALK: DEEPEST: the fewest blows that the longest WORD of a code (as of CODE, a"
+                + " long one counts 2) has, if that is to be as short as can be (without WORDS: 0).");
         int[] due = {0, 1, 2, 3, 4, 4, 5, 5, 5};
         for (int many = 0; many <= 8; many++) {
             int[] often = new int[many];
@@ -130,7 +134,8 @@ final class TalkBounds {
     }
 
     private static void plainAsked() {
-        Document.says("Promise 30", "PLAIN: in all (k NONE), or how many blows WORD k has. NONE: there is none such (of either).");
+        Document.says("Promise 30", "PLAIN: in all (k NONE), or how many blows WORD k has. NONE: there is none such"
+                + " (of either).");
         TwoQuarries x = at(7, 8);
         plain(x, 22, 2, 1);
         for (int k : new int[] {MIN, -3, -2, 2, 3, 7, 8, MAX}) {

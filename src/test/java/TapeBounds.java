@@ -39,7 +39,8 @@ final class TapeBounds {
     }
 
     private static void manyCalls() {
-        Document.says("What it is", "An object is used for at most 512 calls after it has been made; what later calls answer is free.");
+        Document.says("What it is", "An object is used for at most 512 calls after it has been made; what later calls"
+                + " answer is free.");
         TwoQuarries x = new TwoQuarries();
         x.feed(0x776F7264, 0x2034323B, 0, 0, 0);
         x.end(8);
@@ -79,7 +80,8 @@ final class TapeBounds {
     }
 
     private static void bytesFed() {
-        Document.says("Promise 2", "The tape: twenty bytes come behind it, of each number the highest first: how many it has.");
+        Document.says("Promise 2", "The tape: twenty bytes come behind it, of each number the highest first: how many"
+                + " it has.");
         TwoQuarries x = new TwoQuarries();
         // word1;word2;word 34;
         Check.due("feed()", x.feed(0x776F7264, 0x313B776F, 0x7264323B, 0x776F7264, 0x2033343B), 20);
@@ -168,8 +170,8 @@ final class TapeBounds {
     }
 
     private static void taken() {
-        Document.says("Promise 4", "The tape is taken (and is empty then) as a text of a sort, a further one (at NONE), or in the place"
-                + " of one: its number.");
+        Document.says("Promise 4", "The tape is taken (and is empty then) as a text of a sort, a further one (at"
+                + " NONE), or in the place of one: its number.");
         for (int sort = 0; sort < 4; sort++) {
             TwoQuarries x = new TwoQuarries();
             Check.told(x, sort, -1, "", 0);
@@ -197,7 +199,8 @@ final class TapeBounds {
                 Check.told(x, sort, -1, ONE_OF_A_SORT[sort], 0);
                 String before = Check.allTold(x);
                 // all but the last byte stands well
-                Check.due("text() with a fault", Check.tell(x, sort, at, OTHER_OF_A_SORT[sort] + OTHER_OF_A_SORT[sort] + "#"), -1);
+                String text = OTHER_OF_A_SORT[sort].repeat(2) + "#";
+                Check.due("text() with a fault", Check.tell(x, sort, at, text), -1);
                 Check.due("the tape is empty behind a fault", x.end(1), -1);
                 Check.due("the fault", x.fault(0), 1);
                 Check.due("text() of the other number", Check.tell(x, 4, -1, ""), -2);
@@ -207,7 +210,8 @@ final class TapeBounds {
     }
 
     private static void notTaken() {
-        Document.says("Promise 4", "-2: there is none such, there are as many as may be, or no such sort (no text is read then, FAULT 0).");
+        Document.says("Promise 4", "-2: there is none such, there are as many as may be, or no such sort (no text is"
+                + " read then, FAULT 0).");
         for (int sort = 0; sort < 4; sort++) {
             for (int many = 0; many <= 2; many++) {
                 for (int at : new int[] {MIN, -3, -2, -1, 0, 1, 2, 3, MAX}) {
@@ -305,7 +309,8 @@ final class TapeBounds {
     }
 
     private static void images() {
-        Document.says("Promise 38", "Image k (0 .. 2) is all that is told (the tape, the FAULT, too), as it is now: true; false for another k.");
+        Document.says("Promise 38", "Image k (0 .. 2) is all that is told (the tape, the FAULT, too), as it is now:"
+                + " true; false for another k.");
         for (int k = 0; k < 3; k++) {
             TwoQuarries x = oneOfEach();
             Check.refused(x, Check.TALK, "word 100;", 1, 5);
@@ -337,7 +342,8 @@ final class TapeBounds {
     }
 
     private static void again() {
-        Document.says("Promise 39", "All that is as image k has it (other images stay): true; false if there is none such.");
+        Document.says("Promise 39", "All that is as image k has it (other images stay): true; false if there is none"
+                + " such.");
         TwoQuarries x = new TwoQuarries();
         Check.told(x, Check.TALK, -1, "word 50;", 0);
         String[] kept = new String[3];
@@ -373,7 +379,8 @@ final class TapeBounds {
     }
 
     private static void twoOfASort() {
-        Document.says("Term 1", "HILLS, at most 2 (sort 0), YEARS, at most 2 (1), LOGS, at most 2 (2), TALKS, at most 2 (3), from 0 on.");
+        Document.says("Term 1", "HILLS, at most 2 (sort 0), YEARS, at most 2 (1), LOGS, at most 2 (2), TALKS, at most"
+                + " 2 (3), from 0 on.");
         TwoQuarries x = new TwoQuarries();
         for (int sort = 0; sort < 4; sort++) {
             Check.told(x, sort, -1, ONE_OF_A_SORT[sort], 0);

@@ -44,8 +44,9 @@ final class TextBounds {
     }
 
     private static void sizes() {
-        Document.says("Term 1", "A HILL is WIDE, 2 .. 8, and HIGH, 2 .. 6 (6 and 4 at first): CELLS, numbered WIDE times row and"
-                + " column, row 0 on top, each of a KIND: 0 AIR, 1 CHALK (at first), 2 MARBLE, 3 GRANITE, 4 PROP.");
+        Document.says("Term 1", "A HILL is WIDE, 2 .. 8, and HIGH, 2 .. 6 (6 and 4 at first): CELLS, numbered WIDE"
+                + " times row and column, row 0 on top, each of a KIND: 0 AIR, 1 CHALK (at first), 2 MARBLE, 3"
+                + " GRANITE, 4 PROP.");
         for (int wide = 2; wide <= 8; wide++) {
             for (int high = 2; high <= 6; high++) {
                 ofSize("size " + wide + " " + high + ";", wide, high);
@@ -131,7 +132,8 @@ final class TextBounds {
     }
 
     private static void facts() {
-        Document.says("Term 1", "A LOG has FACTS, at most 8, from 0 on: at a CELL of a HILL 8 wide and 6 high so much was HEARD, 0 .. 9.");
+        Document.says("Term 1", "A LOG has FACTS, at most 8, from 0 on: at a CELL of a HILL 8 wide and 6 high so much"
+                + " was HEARD, 0 .. 9.");
         for (int many = 0; many <= 8; many++) {
             TwoQuarries x = judged(Check.LOG, "heard 3 2 7;".repeat(many), 0, -1);
             Check.due(many + " facts", x.fact(0, -1, 0), many);
@@ -167,8 +169,8 @@ final class TextBounds {
     }
 
     private static void tokens() {
-        Document.says("Term 1", "TOKENS, as long as they go, blanks (10, 32) between: words, rows of letters a .. z; NUMBERS, 1 or 2"
-                + " digits; ; one byte.");
+        Document.says("Term 1", "TOKENS, as long as they go, blanks (10, 32) between: words, rows of letters a .. z;"
+                + " NUMBERS, 1 or 2 digits; ; one byte.");
         String text = "word 5 ; word 6 ;";
         for (int sign = 0; sign < 256; sign++) {
             boolean blank = sign == 10 || sign == 32;
@@ -195,6 +197,22 @@ final class TextBounds {
     }
 
     private static void longTokens() {
+        String[][] words = {HILL_WORDS, YEAR_WORDS, {"heard"}, {"word"}};
+        Document.says("Term 1", "words, rows of letters a .. z");
+        for (int sort = 0; sort < 4; sort++) {
+            for (String word : words[sort]) {
+                String numbers = word.equals("knock") || sort == 3 ? " 2;" : sort == 2 ? " 2 2 2;" : " 2 2;";
+                judged(sort, word + numbers, 0, -1);
+                for (int at = 0; at < word.length(); at++) {
+                    // another letter, one less, one more
+                    judged(sort, word.substring(0, at) + "x" + word.substring(at + 1) + numbers, 1, 0);
+                    judged(sort, word.substring(0, at) + word.substring(at + 1) + numbers, 1, 0);
+                    judged(sort, word.substring(0, at) + "x" + word.substring(at) + numbers, 1, 0);
+                }
+                judged(sort, word + "s" + numbers, 1, 0);
+                judged(sort, word + word + numbers, 1, 0);
+            }
+        }
         Document.says("Term 1", "TOKENS, as long as they go");
         judged(Check.TALK, "wordword 5;", 1, 0);
         judged(Check.TALK, "w ord 5;", 1, 0);
@@ -212,8 +230,8 @@ final class TextBounds {
     }
 
     private static void hillText() {
-        Document.says("Term 1", "A HILL's text: {('size' | 'air' | 'chalk' | 'marble' | 'granite' | 'prop') NUMBER NUMBER ';'} (size:"
-                + " WIDE, HIGH; air and so on: a column, 0 .. 7, a row, 0 .. 5).");
+        Document.says("Term 1", "A HILL's text: {('size' | 'air' | 'chalk' | 'marble' | 'granite' | 'prop') NUMBER"
+                + " NUMBER ';'} (size: WIDE, HIGH; air and so on: a column, 0 .. 7, a row, 0 .. 5).");
         for (String word : HILL_WORDS) {
             boolean size = word.equals("size");
             int at = word.length() + 6;
@@ -252,8 +270,8 @@ final class TextBounds {
     }
 
     private static void yearText() {
-        Document.says("Term 1", "A YEAR's text: {(('north' | 'south' | 'prop') NUMBER NUMBER | 'knock' NUMBER) ';'} (a column, a row;"
-                + " knock: 0 .. 20).");
+        Document.says("Term 1", "A YEAR's text: {(('north' | 'south' | 'prop') NUMBER NUMBER | 'knock' NUMBER) ';'}"
+                + " (a column, a row; knock: 0 .. 20).");
         for (int kind = 0; kind < 3; kind++) {
             String word = YEAR_WORDS[kind];
             for (int n = 0; n < 100; n++) {
@@ -272,7 +290,8 @@ final class TextBounds {
             Check.due("knock " + n, x.deed(0, 0, 1), n <= 20 ? n : -2);
         }
         broken(Check.YEAR, "knock", 1);
-        for (String word : new String[] {"size", "air", "chalk", "marble", "granite", "heard", "word", "east", "props", "nort"}) {
+        String[] others = {"size", "air", "chalk", "marble", "granite", "heard", "word", "east", "props", "nort"};
+        for (String word : others) {
             judged(Check.YEAR, word + " 2 2;", 1, 0);
         }
     }
@@ -320,9 +339,27 @@ final class TextBounds {
         Check.due("a size behind a cell leaves it as told", x.hill(0, 104), 2);
         Check.told(x, Check.HILL, 0, "size 8 6;marble 1 1;size 2 2;", 0);
         Check.due("a cell told in a larger hill", x.hill(0, 103), 2);
-        Check.told(x, Check.HILL, 0, "", 0);
-        Check.due("a text in the place of one begins anew", x.hill(0, 0), 6);
-        Check.due("chalk anew", x.hill(0, 3), 24);
+        anew();
+    }
+
+    /** Nothing of an earlier text is left, were it taken or not: not in the hill, and not beside it. */
+    private static void anew() {
+        for (int kind = 1; kind < HILL_WORDS.length; kind++) {
+            StringBuilder full = new StringBuilder("size 8 6;");
+            for (int cell = 0; cell < 48; cell++) {
+                full.append(HILL_WORDS[kind]).append(' ').append(cell % 8).append(' ').append(cell / 8).append(';');
+            }
+            TwoQuarries x = judged(Check.HILL, full.toString(), 0, -1);
+            Check.told(x, Check.HILL, 0, "", 0);
+            Check.due("wide anew", x.hill(0, 0), 6);
+            Check.due("high anew", x.hill(0, 1), 4);
+            Check.due("chalk alone", x.hill(0, 2), 24);
+            Check.due("worth of chalk alone", x.hill(0, 3), 24);
+            String faulty = "size 8 6;" + HILL_WORDS[kind] + " 7 0;air 7 5;";
+            Check.refused(x, Check.HILL, faulty, 5, faulty.length());
+            Check.told(x, Check.HILL, 0, "size 8 6;", 0);
+            Check.due("chalk alone behind a fault", x.hill(0, 3), 48);
+        }
     }
 
     private static void furtherOnes() {
@@ -341,8 +378,8 @@ final class TextBounds {
     }
 
     private static void firstToken() {
-        Document.says("Term 1", "FAULTS of all, with places (a token's first byte; the end's): 1 the first byte or token with which no"
-                + " text goes on");
+        Document.says("Term 1", "FAULTS of all, with places (a token's first byte; the end's): 1 the first byte or"
+                + " token with which no text goes on");
         judged(Check.HILL, "size 3 3; bad 1 1; # ;", 1, 10);
         judged(Check.HILL, "size 3 3; # bad", 1, 10);
         judged(Check.HILL, "size 3 3;air 1 size", 1, 15);
@@ -371,8 +408,8 @@ final class TextBounds {
     }
 
     private static void numbers() {
-        Document.says("Term 1", "If there is none, the first by place, of one place the least: 2 a NUMBER that can't be (as above; a"
-                + " line with such a NUMBER tells its DEED, FACT, WORD all the same);");
+        Document.says("Term 1", "If there is none, the first by place, of one place the least: 2 a NUMBER that can't"
+                + " be (as above; a line with such a NUMBER tells its DEED, FACT, WORD all the same);");
         judged(Check.HILL, "size 9 7;", 2, 5);
         judged(Check.HILL, "size 8 7;size 9 9;", 2, 7);
         judged(Check.HILL, "prop 7 5;prop 8 5;prop 9 9;", 2, 14);
@@ -414,7 +451,8 @@ final class TextBounds {
     }
 
     private static void cellsNotThere() {
-        Document.says("Term 1", "If there is none of these, at the end's place, of a HILL: 4 a CELL that was told of and is not there;");
+        Document.says("Term 1", "If there is none of these, at the end's place, of a HILL: 4 a CELL that was told of"
+                + " and is not there;");
         for (int kind = 1; kind < HILL_WORDS.length; kind++) {
             String word = HILL_WORDS[kind];
             int end = word.length() + 5;

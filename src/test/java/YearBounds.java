@@ -70,8 +70,8 @@ final class YearBounds {
     }
 
     private static void cut() {
-        Document.says("Term 2", "north, south: that SIDE, who can CUT it, cuts the STONE in a CELL: its WORTH is his, its BLOWS he strikes; it"
-                + " is AIR; then FALL.");
+        Document.says("Term 2", "north, south: that SIDE, who can CUT it, cuts the STONE in a CELL: its WORTH is his,"
+                + " its BLOWS he strikes; it is AIR; then FALL.");
         int[] worth = {1, 4, 2};
         for (int kind = 0; kind < 3; kind++) {
             String stone = "" + "cmg".charAt(kind);
@@ -235,8 +235,8 @@ final class YearBounds {
     }
 
     private static void deedAsked() {
-        Document.says("Promise 7", "How many DEEDS (k NONE, what 0); of DEED k, what 0: 0 north, 1 south, 2 prop, 3 knock, 1, 2: its numbers"
-                + " (2 NONE of knock).");
+        Document.says("Promise 7", "How many DEEDS (k NONE, what 0); of DEED k, what 0: 0 north, 1 south, 2 prop, 3"
+                + " knock, 1, 2: its numbers (2 NONE of knock).");
         TwoQuarries x = new TwoQuarries();
         Check.told(x, Check.YEAR, -1, "north 0 1;south 7 5;prop 3 0;knock 20;knock 0;", 0);
         Check.told(x, Check.YEAR, -1, "", 1);
@@ -274,8 +274,8 @@ final class YearBounds {
     }
 
     private static void stateAsked() {
-        Document.says("Promise 9", "Of a STATE, what 0, 1: WORTH of NORTH, of SOUTH, 2, 3: BLOWS of theirs, 4: LOST, 5: THICK (NONE), 6: how"
-                + " many knocks were HEARD, 7: STONES that are left, 100 + c: KIND of a CELL.");
+        Document.says("Promise 9", "Of a STATE, what 0, 1: WORTH of NORTH, of SOUTH, 2, 3: BLOWS of theirs, 4: LOST,"
+                + " 5: THICK (NONE), 6: how many knocks were HEARD, 7: STONES that are left, 100 + c: KIND of a CELL.");
         // north cuts marble, a granite is lost; south cuts granite; north's prop shuts the way
         TwoQuarries x = at("north 0 1;knock 1;south 2 0;knock 1;knock 0;prop 0 0;prop 0 1;knock 20;", "gcg", "mpp");
         state(x, 0, 0, 0, 0, 0, 0, 3, 0, 4);
@@ -319,14 +319,24 @@ final class YearBounds {
     }
 
     private static void eyeAndWorst() {
-        Document.says("Term 5", "Of a YEAR in a HILL, behind all DEEDS up to STOP: EYE: the least n of a STATE in which it is THROUGH; WORST:"
-                + " the DEED (from 0 on) by which most were LOST, of several the first (none was: none); how many by that one.");
+        Document.says("Term 5", "Of a YEAR in a HILL, behind all DEEDS up to STOP: EYE: the least n of a STATE in"
+                + " which it is THROUGH; WORST: the DEED (from 0 on) by which most were LOST, of several the first"
+                + " (none was: none); how many by that one.");
         after(at("", "cc", "cc"), "no deeds", -1, -1, 0);
         after(at("", "..", "cc"), "through at first", 0, -1, 0);
         after(at("prop 0 0;prop 1 0;", "..", "pp"), "through at first, not later", 0, -1, 0);
         after(at("north 0 0;", "c.", "cc"), "through by the only deed", 1, -1, 0);
         after(at("north 0 0;south 1 0;knock 1;", "cc", "cc"), "through by the second deed", 2, -1, 0);
         after(at("knock 0;".repeat(39) + "north 0 0;", "c.", "cc"), "through by deed 39", 40, -1, 0);
+        // no deed behind the last one
+        after(at("", "c.", "cc"), "nothing is done", -1, -1, 0);
+        TwoQuarries two = at("south 4 1;", "c...c", "cpppc");
+        Check.told(two, Check.YEAR, -1, "knock 1;north 0 0;", 1);
+        int[] calm = {2, -1, 0};
+        for (int what = 0; what < 3; what++) {
+            Check.due("one is lost in year 0", two.after(0, 0, 2), 1);
+            Check.due("none is lost in year 1: after, " + what, two.after(0, 1, what), what == 0 ? -1 : calm[what]);
+        }
         // what comes at the stop and behind it does not count
         after(at("north 0 0;prop 0 1;south 1 0;", "cc", "cc"), "stopped ahead", -1, -1, 0);
         after(at("prop 0 0;north 0 1;", "cc", "cc"), "stopped at deed 0", -1, -1, 0);
@@ -341,8 +351,8 @@ final class YearBounds {
     }
 
     private static void afterAsked() {
-        Document.says("Promise 28", "What 0: EYE (NONE: in no STATE), 1: WORST (NONE), 2: how many (0 without). -2: there is none such (of"
-                + " either), or for another what.");
+        Document.says("Promise 28", "What 0: EYE (NONE: in no STATE), 1: WORST (NONE), 2: how many (0 without). -2:"
+                + " there is none such (of either), or for another what.");
         TwoQuarries x = at("south 1 1;", ".c", ".c");
         after(x, "asked", 1, 0, 1);
         after(at("knock 20;", "pp", "pp"), "none", -1, -1, 0);
@@ -372,8 +382,8 @@ final class YearBounds {
     }
 
     private static void drawnNumbers() {
-        Document.says("Term 4", "DRAWN by a SEED, x; a number below n is drawn: x becomes x * 1103515245 + 12345 (of 32 bits), it is x shifted"
-                + " right by 16 without sign, remainder by n: n times, 0 to 60:");
+        Document.says("Term 4", "DRAWN by a SEED, x; a number below n is drawn: x becomes x * 1103515245 + 12345 (of"
+                + " 32 bits), it is x shifted right by 16 without sign, remainder by n: n times, 0 to 60:");
         // without stones there are props and knocks alone: those are heard till a prop shuts the way
         for (int seed : SEEDS) {
             TwoQuarries x = Check.drawn("..", "pp");
@@ -408,8 +418,8 @@ final class YearBounds {
     }
 
     private static void drawnCuts() {
-        Document.says("Term 4", "a number below 8: 0, 1, 2: north, 3, 4, 5: south, 6: prop, a CELL, below all; 7: knock, a number below 10;"
-                + " each, if it may.");
+        Document.says("Term 4", "a number below 8: 0, 1, 2: north, 3, 4, 5: south, 6: prop, a CELL, below all; 7:"
+                + " knock, a number below 10; each, if it may.");
         for (int seed = -300; seed < 300; seed++) {
             TwoQuarries x = Check.drawn("cccccccc", "cccccccc", "cccccccc", "cccccccc", "cccccccc", "cccccccc");
             Lot lot = new Lot(7919 * seed);
