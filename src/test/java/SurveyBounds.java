@@ -247,6 +247,11 @@ final class SurveyBounds {
         path(7, "p...p", "p...p", "ccccc");
         path(5, "p...p", "p...p", "cc.cc");
         path(7, "cp...", "cpcp.", "c.cp.");
+        // a stone next to the first cell counts as any other, also where it saves cells
+        path(7, "p...p", "c.ccc");
+        path(7, "p...p", "ccc.c");
+        path(6, "pcccc", "c...p");
+        path(6, "ccccp", "p...c");
     }
 
     private static void pathAsked() {
@@ -388,6 +393,9 @@ final class SurveyBounds {
         nearer(6, 0, "cmp", "cpp");
         nearer(0, 6, "pmc", "ppc");
         nearer(0, 0, "ppppp", "ppmpp", "ppppp");
+        // behind a stone, too, a prop lets nobody through: the other side's second and third stay its own
+        nearer(1, 9, "cpmmc", "ppppp");
+        nearer(9, 1, "cmmpc", "ppppp");
     }
 
     private static void nearerAsked() {
